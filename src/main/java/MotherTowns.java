@@ -806,9 +806,11 @@ public final class MotherTowns {
         }
 
         private void hang(int v, int top) {
+            int low = form[v] == TORN ? 0 : form[v];
+            int high = form[v] == TORN ? FORMS - 1 : form[v];
             for (int f = 0; f < FORMS; f++) {
                 int smallest = FAR;
-                for (int g = 0; g < FORMS; g++) {
+                for (int g = low; g <= high; g++) {
                     smallest = Math.min(smallest, step[f * FORMS + g] + below[v * FORMS + g]);
                 }
                 branch[v * FORMS + f] = smallest;
@@ -1043,6 +1045,8 @@ public final class MotherTowns {
         private final int[] power = new int[MOST + 1];
         private final int[] weight = new int[MOST * MOST];
         private final int[] tornClauses = new int[CLAUSES];
+        /** What the torn clauses from each on cost at least in any tree: so trees that are too dear are seen early. */
+        private final int[] atLeast = new int[CLAUSES + 1];
         private int torn;
         private int plainCost;
         private int versionSeen = -1;
@@ -1130,6 +1134,24 @@ public final class MotherTowns {
             for (int clause = 0; clause < CLAUSES; clause++) {
                 sortClause(clause);
             }
+            atLeast[torn] = 0;
+            for (int i = torn - 1; i >= 0; i--) {
+                atLeast[i] = atLeast[i + 1] + entries(toldForms(tornClauses[i]));
+            }
+        }
+
+        /** Each form that is told but the root's must come in along some way. */
+        private int entries(int forms) {
+            int sum = 0;
+            int dearest = 0;
+            for (int f = 0; f < FORMS; f++) {
+                int entry = f == 0 ? charters.costOf(DROP) : Math.min(charters.costOf(INVENT), charters.costOf(TURN));
+                if ((forms >> f & 1) != 0) {
+                    sum += entry;
+                    dearest = Math.max(dearest, entry);
+                }
+            }
+            return sum - dearest;
         }
 
         /** Clauses told by all have one price for each pair; those that all can share cost nothing in any tree. */
@@ -1176,7 +1198,8 @@ public final class MotherTowns {
                 } else {
                     trial.mother[place] = mother;
                     plainCost += weight[mother * MOST + place];
-                    if (trial.first[mother] >= trial.last[place] || plainCost > least || closesRing(place)) {
+                    boolean dear = plainCost + atLeast[0] > least;
+                    if (dear || trial.first[mother] >= trial.last[place] || closesRing(place)) {
                         return power[place];
                     }
                 }
@@ -1197,7 +1220,10 @@ public final class MotherTowns {
                 return;
             }
             int cost = plainCost;
-            for (int i = 0; i < torn && cost <= least; i++) {
+            for (int i = 0; i < torn; i++) {
+                if (cost + atLeast[i] > least) {
+                    return;
+                }
                 writeClause(tornClauses[i]);
                 cost += trial.least();
             }
