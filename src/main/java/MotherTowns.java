@@ -619,7 +619,7 @@ public final class MotherTowns {
         }
 
         int motherOf(int charter) {
-            return cells[motherCell(charter)];
+            return cells[MOTHERS_AT + charter];
         }
 
         /** Whether a charter is one that is told, or stands under it in the tree. */
@@ -709,11 +709,11 @@ public final class MotherTowns {
                 first[v] = charters.first[v];
                 last[v] = charters.last[v];
             }
-            price(charters);
+            takeCosts(charters);
             arrange();
         }
 
-        void price(Charters charters) {
+        void takeCosts(Charters charters) {
             for (int f = 0; f < FORMS; f++) {
                 for (int g = 0; g < FORMS; g++) {
                     int which = f == 0 ? INVENT : g == 0 ? DROP : TURN;
@@ -1104,7 +1104,7 @@ public final class MotherTowns {
             }
             versionSeen = charters.version;
             found = 0;
-            least = Integer.MAX_VALUE;
+            least = Tree.FAR;
             prepare();
             int total = power[0] * listed;
             int code = 0;
@@ -1124,7 +1124,7 @@ public final class MotherTowns {
                 power[place] = power[place + 1] * listed;
             }
             trial.size = listed;
-            trial.price(charters);
+            trial.takeCosts(charters);
             for (int i = 0; i < listed; i++) {
                 trial.first[i] = charters.first[list[i]];
                 trial.last[i] = charters.last[list[i]];
