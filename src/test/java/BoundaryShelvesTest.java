@@ -256,6 +256,7 @@ public final class BoundaryShelvesTest {
         r.run("41: each its own", "3 x lost()", "2 x path(5, 0)", "list(1) = 1", "feed(4, 0) = 4", "5 x price(0, 1)", "price(0, 2) = 1",
             "price(0, 3) = 2", "undo() = 2", "act(0, 3, 0) = 0", "count(0) = 3", "count(1) = 4", "count(2) = 1", "count(3) = 2", "count(4) = 2",
             "count(5) = 9", "count(-1) = BAD", "count(6) = BAD");
+        r.run("41: the 512th call is answered as the first", "510 x price(0, 1)", "count(3) = 1", "count(0) = 0");
         r.run("41: as many as there can be", "12 x lost()", "30 x feed(4, 0)", "100 x path(0, 0)", "list(0) = 1", "list(1) = 2", "list(2) = 3",
             "list(3) = 4", "list(4) = 5", "list(5) = 6", "20 x price(0, 1)", "count(0) = 12", "count(1) = 120", "count(2) = 6",
             "count(3) = 1", "count(4) = 100", "count(5) = 0");

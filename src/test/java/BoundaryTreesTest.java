@@ -239,6 +239,10 @@ public final class BoundaryTreesTest {
             "best(0) = 6", "price(2, 7) = 6", "best(0) = 7", "undo() = 0", "price(2, 8) = 6", "best(0) = 8", "undo() = 0", "best(0) = 6",
             "redo() = 0", "best(0) = 8", "form(1, 0, 1) = 2", "best(0) = 0", "undo() = 1", "undo() = 0", "redo() = 1", "form(1, 0, 0) = 2",
             "best(0) = 4", "mother(1, 0) = -1", "best(0) = 4");
+        r.run("16: anew behind another list", "'5,a1' = 0", "'6,a2' = 1", "'6,a3' = 2", "'6,a0' = 3", "'6' = 4", "'7' = 5", "list(0) = 1",
+            "list(1) = 2", "list(2) = 3", "list(3) = 4", "list(4) = 5", "best(0) = 16", "best(1) = 1", "unlist() = 5", "list(0) = 1",
+            "list(4) = 2", "list(5) = 3", "best(0) = 0", "best(1) = 2", "list(1) = 4", "best(0) = 6", "best(1) = 3", "unlist() = 4",
+            "list(4) = 1", "list(5) = 2", "best(0) = 0", "best(1) = 1", "tree(0, 0) = 9", "tree(0, 1) = 0");
         r.run("16: torn, all told wordings and absent, invented cheaply", "'5,a0' = 0", "'6,a1' = 1", "'7,a2' = 2", "'8' = 3",
             "list(0) = 1", "list(1) = 2", "list(2) = 3", "list(3) = 4", "price(0, 1) = 10", "price(2, 1) = 6", "best(0) = 2",
             "best(1) = 6", "best(2) = 3");

@@ -22,6 +22,8 @@ public final class LanguageTest {
     public static void main(String[] args) throws Exception {
         source();
         face();
+        faceTypes();
+        classesInside();
         oddCalls();
         checks.end();
     }
@@ -84,6 +86,63 @@ public final class LanguageTest {
         Constructor<?>[] made = all.getConstructors();
         checks.due("constructors", made.length, 1);
         checks.due("without arguments", made[0].getParameterCount(), 0);
+    }
+
+    private static final String INT_FACE = "feed 2, charter 0, lost 0, ofCharter 2, form 3, forms 4, price 2, same 3, mother 2, cost 1, "
+        + "filled 2, days 2, list 1, unlist 0, best 1, tree 2, never 1, claim 1, few 1, from 2, pairs 1, freed 0, doubt 1, law 2, "
+        + "cameIn 2, slip 2, chain 2, undo 0, redo 0, digest 0, path 2, act 3, trace 1, keep 2, row 3, put 3, element 2, shift 5, "
+        + "taken 2, count 1";
+
+    /** Rule 1: all arguments and answers are ints, but put's value and element's answer. */
+    private static void faceTypes() throws Exception {
+        for (String told : INT_FACE.split(", ")) {
+            String name = told.split(" ")[0];
+            Class<?>[] types = new Class<?>[Integer.parseInt(told.split(" ")[1])];
+            Arrays.fill(types, int.class);
+            if (name.equals("put")) {
+                types[2] = long.class;
+            }
+            Method m = MotherTowns.class.getDeclaredMethod(name, types);
+            checks.due(name + " is public, and no more", m.getModifiers(), Modifier.PUBLIC);
+            checks.due(name + "'s answer", m.getReturnType() == (name.equals("element") ? long.class : int.class) ? 1 : 0, 1);
+        }
+        checks.due("public and final", MotherTowns.class.getModifiers() & (Modifier.PUBLIC | Modifier.FINAL), Modifier.PUBLIC | Modifier.FINAL);
+        String[] constants = {"BAD -1", "NOT -2", "FULL -3", "STATE -5", "VOID -2000000000"};
+        for (String constant : constants) {
+            Field f = MotherTowns.class.getDeclaredField(constant.split(" ")[0]);
+            checks.due(constant, f.getModifiers(), Modifier.PUBLIC | Modifier.STATIC | Modifier.FINAL);
+            checks.due(constant, f.getInt(null), Integer.parseInt(constant.split(" ")[1]));
+        }
+    }
+
+    /** Rules 1 to 5 and 11: classes inside are static and hidden, few fields of plain types, few parameters. */
+    private static void classesInside() {
+        Class<?>[] inside = MotherTowns.class.getDeclaredClasses();
+        List<Class<?>> all = new java.util.ArrayList<>(List.of(inside));
+        all.add(MotherTowns.class);
+        for (Class<?> one : all) {
+            String name = one.getSimpleName();
+            if (one != MotherTowns.class) {
+                checks.due(name + " is static", one.getModifiers() & Modifier.STATIC, Modifier.STATIC);
+                checks.due(name + " is hidden", one.getModifiers() & (Modifier.PUBLIC | Modifier.PROTECTED), 0);
+                checks.due(name + " holds no class", one.getDeclaredClasses().length, 0);
+            }
+            int fields = 0;
+            for (Field f : one.getDeclaredFields()) {
+                boolean fixed = Modifier.isStatic(f.getModifiers());
+                fields += fixed ? 0 : 1;
+                checks.due(name + "." + f.getName() + ": static is final", fixed && !Modifier.isFinal(f.getModifiers()) ? 1 : 0, 0);
+                Class<?> type = f.getType().isArray() ? f.getType().getComponentType() : f.getType();
+                boolean plain = List.of(int.class, long.class, boolean.class).contains(type) || !fixed && all.contains(type);
+                checks.due(name + "." + f.getName() + ": a plain type", plain ? 1 : 0, 1);
+            }
+            checks.due(name + ": some twenty fields: " + fields, fields <= 20 ? 1 : 0, 1);
+            for (Method m : one.getDeclaredMethods()) {
+                checks.due(name + "." + m.getName() + ": parameters", m.getParameterCount() <= 7 ? 1 : 0, 1);
+                boolean ofFace = one != MotherTowns.class && List.of(FACE.split(" ")).contains(m.getName());
+                checks.due(name + "." + m.getName() + " bears a name of the face", ofFace ? 1 : 0, 0);
+            }
+        }
     }
 
     /** Odd arguments in states of all kinds; what is thrown ends the test. */
